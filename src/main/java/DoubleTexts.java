@@ -66,12 +66,12 @@ public final class DoubleTexts {
             becomeInfinite(sign);
         } else if (form == Numeral.NAN) {
             becomeNotANumber();
-        } else if (form == Numeral.RATIO && numeral.asksInexact()) {
+        } else if (form == Numeral.RATIO && numeral.inexactIsAsked()) {
             becomeNearest(sign, 0);
         } else if (form == Numeral.RATIO) {
             bringToLowestTerms();
-            becomeExact(sign);
-        } else if (form == Numeral.DECIMAL && numeral.asksExact()) {
+            becomeExactNumber(sign);
+        } else if (form == Numeral.DECIMAL && numeral.exactIsAsked()) {
             becomeExactDecimal(sign, numeral.tens());
         } else if (form == Numeral.DECIMAL) {
             becomeNearestDecimal(sign, numeral.tens(), numeral.significantDigits());
@@ -113,7 +113,7 @@ public final class DoubleTexts {
             numerator.shiftRight(common);
             denominator.shiftLeft(-doublePlace - common);
         }
-        becomeExact(minus);
+        becomeExactNumber(minus);
         return true;
     }
 
@@ -155,7 +155,7 @@ public final class DoubleTexts {
         }
         output.empty();
         if (exactNumber) {
-            appendExact(base);
+            appendExactNumber(base);
         } else if (numberKind == FINITE) {
             appendFinite();
         } else if (numberKind == INFINITE) {
@@ -206,7 +206,7 @@ public final class DoubleTexts {
     }
 
     /** The numerator and the denominator stand in lowest terms already. */
-    private void becomeExact(boolean sign) {
+    private void becomeExactNumber(boolean sign) {
         numberKind = EXACT;
         minus = sign && !numerator.isZero();
     }
@@ -299,7 +299,7 @@ public final class DoubleTexts {
     private void becomeExactDecimal(boolean sign, int tens) {
         denominator.set(1);
         if (numerator.isZero() || (tens >= 0 ? multiplyByTens(tens) : divideByTens(-tens))) {
-            becomeExact(sign);
+            becomeExactNumber(sign);
         }
     }
 
@@ -369,7 +369,7 @@ public final class DoubleTexts {
         return smaller;
     }
 
-    private void appendExact(int base) {
+    private void appendExactNumber(int base) {
         output.makeRoom(numerator.bitLength() + denominator.bitLength());
         if (minus) {
             output.append('-');
@@ -548,11 +548,11 @@ public final class DoubleTexts {
             this.text = text;
         }
 
-        boolean asksExact() {
+        boolean exactIsAsked() {
             return exactness == 'e';
         }
 
-        boolean asksInexact() {
+        boolean inexactIsAsked() {
             return exactness == 'i';
         }
 
@@ -593,7 +593,7 @@ public final class DoubleTexts {
             if (form == NO_NUMBER) {
                 return takeNumber(upper, lower);
             }
-            return asksExact() ? NO_NUMBER : form;
+            return exactIsAsked() ? NO_NUMBER : form;
         }
 
         private int takeNumber(Natural upper, Natural lower) {
@@ -769,8 +769,17 @@ public final class DoubleTexts {
                 return;
             }
             boolean endsCount = (units & 1) == 0;
-            setUp(units, place);
-            scale(64 - Long.numberOfLeadingZeros(units) + place, endsCount);
+            // The neighbour below a power of two is only half as far away as the one above.
+            boolean nearBelow = units == TWO_TO_52 && place > LEAST_PLACE;
+            int bits = 64 - Long.numberOfLeadingZeros(units) + place;
+            // 2^(bits - 1) is not above the double, and 0.30103 is the decimal logarithm of 2.
+            point = Math.floorDiv((bits - 1) * 30103, 100000) + 1;
+            setUp(units, place - point, nearBelow);
+            scaleByFives();
+            for (int i = 0; i < MOST_CORRECTIONS && reachesWhole(endsCount); i++) {
+                whole.multiplyAdd(10, 0);
+                point++;
+            }
             boolean last = false;
             for (int i = 0; i < MOST_DIGITS && !last; i++) {
                 last = takeDigit(endsCount);
@@ -784,42 +793,30 @@ public final class DoubleTexts {
             }
         }
 
-        /** The double is rest / whole; what is nearest to it goes below / whole down and above / whole up. */
-        private void setUp(long units, int place) {
-            // The neighbour below a power of two is only half as far away as the one above.
-            boolean nearBelow = units == TWO_TO_52 && place > LEAST_PLACE;
-            int up = Math.max(place, 0);
+        /**
+         * The double is rest / whole * 10^point; what is nearest to it goes below down and above up, as parts of the
+         * whole too. The twos of 10^point are in the given ones already.
+         */
+        private void setUp(long units, int twos, boolean nearBelow) {
+            int up = Math.max(twos, 0);
             rest.set(units);
             rest.shiftLeft(up + 2);
             whole.set(1);
-            whole.shiftLeft(Math.max(-place, 0) + 2);
+            whole.shiftLeft(Math.max(-twos, 0) + 2);
             above.set(1);
             above.shiftLeft(up + 1);
             below.set(1);
             below.shiftLeft(nearBelow ? up : up + 1);
         }
 
-        /** Makes the whole 10^point times as great, for the least point that leaves all that counts below it. */
-        private void scale(int bits, boolean endsCount) {
-            // 2^(bits - 1) is not above the double, and 0.30103 is the decimal logarithm of 2.
-            point = Math.floorDiv((bits - 1) * 30103, 100000) + 1;
+        private void scaleByFives() {
             if (point >= 0) {
                 whole.multiplyByFives(point);
-                whole.shiftLeft(point);
             } else {
-                multiplyByTens(rest, -point);
-                multiplyByTens(above, -point);
-                multiplyByTens(below, -point);
+                rest.multiplyByFives(-point);
+                above.multiplyByFives(-point);
+                below.multiplyByFives(-point);
             }
-            for (int i = 0; i < MOST_CORRECTIONS && reachesWhole(endsCount); i++) {
-                whole.multiplyAdd(10, 0);
-                point++;
-            }
-        }
-
-        private static void multiplyByTens(Natural value, int tens) {
-            value.multiplyByFives(tens);
-            value.shiftLeft(tens);
         }
 
         private boolean reachesWhole(boolean endsCount) {
@@ -1050,13 +1047,13 @@ public final class DoubleTexts {
         }
 
         void shiftLeft(int count) {
-            int newBits = bitLength() + count;
-            if (size == 0 || count <= 0 || newBits > MOST_WORKING_BITS) {
+            int bits = bitLength();
+            if (size == 0 || count <= 0 || count > MOST_WORKING_BITS - bits) {
                 return;
             }
             int skipped = count >> 5;
             int part = count & 31;
-            int newSize = (newBits + 31) >> 5;
+            int newSize = (bits + count + 31) >> 5;
             for (int i = newSize - 1; i >= 0; i--) {
                 // Two steps, as a shift by 32 would be one by 0.
                 int carried = wordAt(i - skipped - 1) >>> 1 >>> (31 - part);
