@@ -249,7 +249,7 @@ public final class DoubleTexts {
                 numerator.subtract(denominator);
                 quotient |= 1;
             }
-            numerator.shiftLeft(1);
+            numerator.multiplyAdd(2, 0);
         }
         return quotient;
     }

@@ -16,7 +16,8 @@ public final class LanguageTest {
     private static final Pattern LIBRARY = Pattern.compile("\\b(Math|Integer|Long)\\.(\\w+)");
     private static final String KNOWN = " max min abs compare compareUnsigned floorDiv numberOfLeadingZeros "
         + "numberOfTrailingZeros MAX_VALUE ";
-    private static final Pattern STATIC_FIELD = Pattern.compile("\\bstatic\\s+(?!final\\b)[\\w\\[\\]]+\\s+\\w+\\s*[=;]");
+    private static final Pattern STATIC_FIELD = Pattern.compile(
+        "\\bstatic\\s+(?!final\\b)[\\w\\[\\]]+\\s+\\w+\\s*[=;]");
     private static final Pattern MADE = Pattern.compile("\\bnew\\s+(\\w+)");
     private static final String MADE_KNOWN = " Line Numeral Natural ShortestDigits byte int ";
 

@@ -1,3 +1,4 @@
+import java.math.BigDecimal;
 import java.math.BigInteger;
 import java.util.Random;
 
@@ -146,7 +147,7 @@ public final class ModelTest {
     }
 
     private String text() {
-        switch (random.nextInt(8)) {
+        switch (random.nextInt(10)) {
             case 0:
                 return pick(MIXED, random.nextInt(12));
             case 1:
@@ -155,6 +156,8 @@ public final class ModelTest {
                 return bitLimit();
             case 3:
                 return middle();
+            case 4:
+                return commonFactor();
             default:
                 return ordinary();
         }
@@ -227,14 +230,36 @@ public final class ModelTest {
         return "#e" + oneOf("", "-") + digits + "e" + tens;
     }
 
+    /** Fractions that are not in lowest terms. */
+    private String commonFactor() {
+        BigInteger common = someBits(300);
+        return random.nextBoolean()
+            ? oneOf("#x", "#e#x", "#x#i") + common.multiply(someBits(300)).toString(16) + "/" + common.multiply(someBits(300)).toString(16)
+            : oneOf("", "-") + common.multiply(someBits(300)) + "/" + common.multiply(someBits(300));
+    }
+
+    /** From 1 up; some of the bits in long rows of ones and zeros. */
+    private BigInteger someBits(int most) {
+        BigInteger value = new BigInteger(1 + random.nextInt(most), random);
+        BigInteger ones = BigInteger.ONE.shiftLeft(random.nextInt(most / 2)).subtract(BigInteger.ONE);
+        switch (random.nextInt(3)) {
+            case 0:
+                return value.setBit(0);
+            case 1:
+                return value.or(ones).setBit(0);
+            default:
+                return value.setBit(most / 2).shiftRight(random.nextInt(40)).shiftLeft(random.nextInt(40));
+        }
+    }
+
     /** Decimals in the middle between two doubles, or a little aside. */
     private String middle() {
         long bits = random.nextLong() >>> 1;
         int exponent = random.nextInt(5) == 0 ? random.nextInt(3) : 960 + random.nextInt(160);
         bits = bits & (1L << 52) - 1 | (long) exponent << 52;
-        java.math.BigDecimal exact = new java.math.BigDecimal(Double.longBitsToDouble(bits));
-        java.math.BigDecimal sum = exact.add(new java.math.BigDecimal(Double.longBitsToDouble(bits + 1)));
-        java.math.BigDecimal half = sum.divide(new java.math.BigDecimal(2)).stripTrailingZeros();
+        BigDecimal exact = new BigDecimal(Double.longBitsToDouble(bits));
+        BigDecimal sum = exact.add(new BigDecimal(Double.longBitsToDouble(bits + 1)));
+        BigDecimal half = sum.divide(new BigDecimal(2)).stripTrailingZeros();
         BigInteger digits = half.unscaledValue();
         int scale = half.scale();
         String text = digits + oneOf("", ".0", ".0000000001");

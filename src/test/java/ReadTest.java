@@ -55,6 +55,7 @@ public final class ReadTest {
         due("18446744073709551616/4294967296", 1, "4294967296");
         due("340282366920938463463374607431768211455/18446744073709551615", 1, "18446744073709551617");
         due(Check.repeat("3", 199) + "/" + Check.repeat("9", 199), 1, "1/3");
+        commonFactors();
         due("1/0", 0, "none");
         due("1/000", 0, "none");
         due("0/0", 0, "none");
@@ -71,9 +72,30 @@ public final class ReadTest {
         due("1 / 2", 0, "none");
     }
 
+    /** Fractions that have great factors in common, even and odd ones. */
+    private static void commonFactors() {
+        BigInteger upper = new BigInteger("fedcba9876543210f0e1d2c3b4a5968778695a4b3c2d1e0f", 16);
+        BigInteger lower = new BigInteger("ffffffff00000001fffffffe80000003", 16);
+        BigInteger once = upper.gcd(lower);
+        String lowest = upper.divide(once) + "/" + lower.divide(once);
+        BigInteger factor = BigInteger.ONE;
+        for (int i = 0; i < 60; i++) {
+            factor = factor.multiply(BigInteger.valueOf(i % 3 == 0 ? 2 : 65521 - 2 * i)).setBit(0);
+            for (int twos = 0; twos < 40; twos += 13) {
+                BigInteger common = factor.shiftLeft(twos);
+                String text = upper.multiply(common) + "/" + lower.multiply(common);
+                if (text.length() <= 400) {
+                    due(text, 1, lowest);
+                    due(lower.multiply(common) + "/" + common, 1, lower.toString());
+                }
+            }
+        }
+    }
+
     private static void prefixes() {
         due("#xfF", 1, "255");
         due("#xAbCdEf", 1, "11259375");
+        due("#xaBcDeF", 1, "11259375");
         due("#b-101", 1, "-5");
         due("#o17", 1, "15");
         due("#d19", 1, "19");
@@ -249,6 +271,8 @@ public final class ReadTest {
         due("1 ", 0, "none");
         due("1\n", 0, "none");
         due("\0", 0, "none");
+        due("1\0", 0, "none");
+        due("1.5\0", 0, "none");
         due("1,5", 0, "none");
         due("1_0", 0, "none");
         due(":", 0, "none");

@@ -1,3 +1,5 @@
+import java.math.BigInteger;
+
 /** Promise 14, write, and the term WRITTEN. */
 public final class WriteTest {
     private static final Check CHECK = new Check();
@@ -5,12 +7,15 @@ public final class WriteTest {
     public static void main(String[] args) {
         exactInEveryBase();
         longExact();
+        everyLength();
         bases();
         plainDoubles();
         forms();
         shortest();
+        endsOfTheNearest();
         narrowBelow();
         ties();
+        shorterAfterLonger();
         unchangedNumber();
         CHECK.end();
     }
@@ -26,8 +31,8 @@ public final class WriteTest {
         String digits = "1000000007/123456789012345678901234567890";
         String[] parts = digits.split("/");
         for (int base = 2; base <= 16; base++) {
-            String upper = new java.math.BigInteger(parts[0]).toString(base);
-            String lower = new java.math.BigInteger(parts[1]).toString(base);
+            String upper = new BigInteger(parts[0]).toString(base);
+            String lower = new BigInteger(parts[1]).toString(base);
             due("-" + digits, base, "-" + upper + "/" + lower);
             due(parts[1], base, lower);
             due("0", base, "0");
@@ -42,18 +47,31 @@ public final class WriteTest {
         x.read();
         String ten = "-1" + Check.repeat("0", 1233);
         CHECK.same("10^1233", Check.written(x, 10), ten);
-        java.math.BigInteger value = new java.math.BigInteger(ten);
+        BigInteger value = new BigInteger(ten);
         for (int base = 2; base <= 16; base++) {
             CHECK.same("10^1233 in base " + base, Check.written(x, base), value.toString(base));
         }
         CHECK.same("4097 characters", x.write(2), 4097);
         x = Check.typed("#e-" + Check.repeat("7", 388) + "e-1233");
         x.read();
-        java.math.BigInteger upper = new java.math.BigInteger(Check.repeat("7", 388));
-        java.math.BigInteger lower = java.math.BigInteger.TEN.pow(1233);
+        BigInteger upper = new BigInteger(Check.repeat("7", 388));
+        BigInteger lower = BigInteger.TEN.pow(1233);
         for (int base = 2; base <= 16; base++) {
             CHECK.same("7..7e-1233 in base " + base, Check.written(x, base),
                 "-" + upper.toString(base) + "/" + lower.toString(base));
+        }
+    }
+
+    /** Powers of two in base 2, over the length at which the output takes more room. */
+    private static void everyLength() {
+        for (int n = 300; n < 520; n++) {
+            DoubleTexts x = new DoubleTexts();
+            x.make(true, 1, n);
+            x.exact();
+            CHECK.same("-2^" + n, Check.written(x, 2), "-1" + Check.repeat("0", n));
+            x.make(false, 1, -n);
+            x.exact();
+            CHECK.same("2^-" + n, Check.written(x, 2), "1/1" + Check.repeat("0", n));
         }
     }
 
@@ -139,6 +157,29 @@ public final class WriteTest {
         due("2.2204460492503131e-16", 10, "2.220446049250313e-16");
         due("0.9999999999999999", 10, "0.9999999999999999");
         due("1.0000000000000002", 10, "1.0000000000000002");
+    }
+
+    /** Shorter decimals just in the middle to a neighbour: they count for even units only. */
+    private static void endsOfTheNearest() {
+        made((1L << 52) + 1, 2, "18014398509481988.0");
+        made((1L << 52) + 2, 2, "18014398509481990.0");
+        made(5960464477539062L, 24, "1e23");
+        made(5960464477539063L, 24, "1.0000000000000001e23");
+    }
+
+    private static void shorterAfterLonger() {
+        DoubleTexts x = new DoubleTexts();
+        x.divide(1234567, 1000);
+        CHECK.same("longer", Check.written(x, 10), "1234.567");
+        x.divide(1000, 1);
+        CHECK.same("shorter", Check.written(x, 10), "1000.0");
+        x.divide(0, 1);
+        CHECK.same("0", Check.written(x, 10), "0.0");
+        x.divide(1, 3);
+        x.exact();
+        x.write(2);
+        x.inexact();
+        CHECK.same("a double after an exact one", Check.written(x, 10), "0.3333333333333333");
     }
 
     /** Powers of two, whose neighbour below is nearer than the one above. */
