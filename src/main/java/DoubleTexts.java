@@ -26,9 +26,9 @@ public final class DoubleTexts {
 
     private static final int FARTHEST_MADE_PLACE = 2000;
 
-    private final Line text = new Line();
+    private final Numeral numeral = new Numeral();
+    private final Line text = numeral.line();
     private final Line output = new Line();
-    private final Numeral numeral = new Numeral(text);
 
     private int numberKind = NONE;
     /** False for none, for a NaN and for an exact zero. */
@@ -522,7 +522,7 @@ public final class DoubleTexts {
         }
     }
 
-    /** What a text tells, found out from its front to its end. */
+    /** The text, and what it tells, found out from its front to its end. */
     private static final class Numeral {
         static final int NO_NUMBER = 0;
         /** Digits, or digits / digits. */
@@ -534,7 +534,7 @@ public final class DoubleTexts {
 
         private static final int MOST_EXPONENT_DIGITS = 4;
 
-        private final Line text;
+        private final Line text = new Line();
         private int at = 0;
         private int base = 0;
         /** The letter of #e or #i; 0 if there is neither. */
@@ -544,8 +544,8 @@ public final class DoubleTexts {
         private int tens = 0;
         private int significant = 0;
 
-        Numeral(Line text) {
-            this.text = text;
+        Line line() {
+            return text;
         }
 
         boolean exactIsAsked() {
