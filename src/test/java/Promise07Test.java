@@ -1,0 +1,98 @@
+import java.math.BigDecimal;
+import java.math.BigInteger;
+
+/** Promise 7, exact. */
+public final class Promise07Test {
+    private static final Promise PROMISE = new Promise(7);
+    private static final double[] FINITE = {
+        1, 1.5, 0.1, 3, 1e22, 1e23, 0x1p52, 0x1p53, 0x1p53 - 1, 0x1p-52, 0x1p-53, 0x1p-53 + 0x1p-105, 0x1p32, 0x1p-32,
+        Double.MIN_VALUE, 2 * Double.MIN_VALUE, 3 * Double.MIN_VALUE, Double.MIN_NORMAL,
+        Double.MIN_NORMAL - Double.MIN_VALUE, 0x1p1023, Double.MAX_VALUE,
+    };
+
+    public static void main(String[] args) {
+        finite();
+        zeros();
+        bitsOfTheEnds();
+        noneSuch();
+        allElseStays();
+        PROMISE.end();
+    }
+
+    private static DoubleTexts made(double value) {
+        long bits = Double.doubleToRawLongBits(Math.abs(value));
+        DoubleTexts x = new DoubleTexts();
+        long units = bits < 1L << 52 ? bits : bits & (1L << 52) - 1 | 1L << 52;
+        x.make(value < 0, units, (int) Math.max(bits >>> 52, 1) - 1075);
+        PROMISE.same("made " + value, Look.number(x), Look.number(value));
+        return x;
+    }
+
+    private static String ratio(double value) {
+        BigDecimal decimal = new BigDecimal(value);
+        BigInteger denominator = BigInteger.TEN.pow(Math.max(decimal.scale(), 0));
+        BigInteger numerator = decimal.multiply(new BigDecimal(denominator)).toBigIntegerExact();
+        BigInteger common = numerator.gcd(denominator);
+        String below = denominator.equals(common) ? "" : "/" + denominator.divide(common);
+        return "exact " + numerator.divide(common) + below;
+    }
+
+    private static void finite() {
+        PROMISE.says("The number becomes exact, if it is a finite double: true");
+        for (double value : FINITE) {
+            for (double signed : new double[] {value, -value}) {
+                DoubleTexts x = made(signed);
+                PROMISE.same("exact of " + signed, x.exact(), true);
+                PROMISE.same("kind of " + signed, x.kind(), 1);
+                PROMISE.same("negative of " + signed, x.negative(), signed < 0);
+                PROMISE.same("then " + signed, Look.number(x), ratio(signed));
+                PROMISE.same("exact again of " + signed, x.exact(), false);
+            }
+        }
+    }
+
+    private static void zeros() {
+        PROMISE.says("becomes exact, if it is a finite double: 0.0 and -0.0");
+        for (String text : new String[] {"0.0", "-0.0"}) {
+            DoubleTexts x = Look.read(text);
+            PROMISE.same("exact of " + text, x.exact(), true);
+            PROMISE.same("then " + text, Look.number(x), "exact 0");
+            PROMISE.same("negative of " + text, x.negative(), false);
+            PROMISE.same("numerator of " + text, x.bits(false), 0);
+            PROMISE.same("denominator of " + text, x.bits(true), 1);
+            x.inexact();
+            PROMISE.same(text + " there and back", Look.number(x), Look.number(0.0));
+        }
+    }
+
+    private static void bitsOfTheEnds() {
+        PROMISE.says("becomes exact, if it is a finite double: the greatest and the least");
+        DoubleTexts x = made(Double.MAX_VALUE);
+        x.exact();
+        PROMISE.same("greatest: numerator", x.bits(false), 1024);
+        PROMISE.same("greatest: denominator", x.bits(true), 1);
+        x = made(Double.MIN_VALUE);
+        x.exact();
+        PROMISE.same("least: numerator", x.bits(false), 1);
+        PROMISE.same("least: denominator", x.bits(true), 1075);
+    }
+
+    private static void noneSuch() {
+        PROMISE.says("false, and nothing is done, if it is none such");
+        for (String sort : new String[] {"", "0", "-7", "22/7", "+inf.0", "-inf.0", "+nan.0", "1e999", "#e1e1234"}) {
+            DoubleTexts x = Look.ready(sort);
+            PROMISE.same("exact of " + sort, x.exact(), false);
+            PROMISE.same("then " + sort, Look.all(x), Look.all(Look.ready(sort)));
+        }
+    }
+
+    private static void allElseStays() {
+        PROMISE.says("The number becomes exact: nothing else changes");
+        DoubleTexts x = Look.ready("-1.5");
+        x.exact();
+        PROMISE.same("-1.5", Look.all(x), Look.all(Look.ready("-3/2")));
+        x = Look.ready("-0.0");
+        x.exact();
+        PROMISE.same("-0.0", Look.all(x), Look.all(Look.ready("0")));
+    }
+}
