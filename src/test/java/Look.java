@@ -53,9 +53,23 @@ final class Look {
         if (Double.isNaN(value) || Double.isInfinite(value)) {
             return Double.isNaN(value) ? "NaN" : sign + "infinite";
         }
+        return sign + units(value) + " * 2^" + place(value);
+    }
+
+    /** A new object with one of Java's own doubles, a finite one. */
+    static DoubleTexts made(double value) {
+        DoubleTexts x = new DoubleTexts();
+        x.make(Double.doubleToRawLongBits(value) < 0, units(value), place(value));
+        return x;
+    }
+
+    private static long units(double value) {
         long bits = Double.doubleToRawLongBits(Math.abs(value));
-        long units = bits < 1L << 52 ? bits : bits & (1L << 52) - 1 | 1L << 52;
-        return sign + units + " * 2^" + (Math.max(bits >>> 52, 1) - 1075);
+        return bits < 1L << 52 ? bits : bits & (1L << 52) - 1 | 1L << 52;
+    }
+
+    private static int place(double value) {
+        return (int) Math.max(Double.doubleToRawLongBits(Math.abs(value)) >>> 52, 1) - 1075;
     }
 
     static String output(DoubleTexts x) {

@@ -4,6 +4,7 @@ final class Promise {
     private final Check check = new Check();
     private String words = "";
     private boolean answered = true;
+    private int sentences = 0;
 
     Promise(int number) {
         this.number = number;
@@ -14,6 +15,7 @@ final class Promise {
         wordsAreTested();
         words = newWords;
         answered = false;
+        sentences++;
     }
 
     void same(String what, long got, long due) {
@@ -31,8 +33,14 @@ final class Promise {
         check.same(told(what), got, due);
     }
 
+    /** That the object is as one made ready with this number; uses it up. */
+    void asReady(String what, DoubleTexts x, String number) {
+        same(what, Look.all(x), Look.all(Look.ready(number)));
+    }
+
     void end() {
         wordsAreTested();
+        System.out.println("promise " + number + ", " + sentences + " sentences and cases of them");
         check.end();
     }
 

@@ -50,7 +50,7 @@ public final class Promise01Test {
         DoubleTexts other = Look.ready("-22/7");
         DoubleTexts x = new DoubleTexts();
         PROMISE.same("the new one", Look.all(x), "output , number none (0 false -1 0 -1 -1), text of 1: 1 exact 3");
-        PROMISE.same("the other", Look.all(other), Look.all(Look.ready("-22/7")));
+        PROMISE.asReady("the other", other, "-22/7");
     }
 
     private static void calls512() {

@@ -42,7 +42,7 @@ public final class Promise02Test {
         for (int code : REFUSED) {
             DoubleTexts x = Look.ready("22/7");
             PROMISE.same("code " + code, x.type(code), -1);
-            PROMISE.same("after code " + code, Look.all(x), Look.all(Look.ready("22/7")));
+            PROMISE.asReady("after code " + code, x, "22/7");
             PROMISE.same("code " + code + " at first", new DoubleTexts().type(code), -1);
         }
     }

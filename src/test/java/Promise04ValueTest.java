@@ -9,8 +9,12 @@ public final class Promise04ValueTest {
 
     public static void main(String[] args) {
         lowestTerms();
+        everySmallRatio();
+        greatCommonFactors();
+        powersOverTens();
         greatestNumerators();
         greatestDenominators();
+        farTooGreat();
         bitsInLowestTerms();
         exactZero();
         fullText();
@@ -47,12 +51,52 @@ public final class Promise04ValueTest {
         reads("4294967296/8589934592", "exact 1/2");
         reads("4294967295/4294967297", "exact 4294967295/4294967297");
         reads("12884901885/4294967295", "exact 3");
+        reads("2/1000000000001", "exact 2/1000000000001");
+        reads("1000000000001/4096", "exact 1000000000001/4096");
+        reads("340282366920938463463374607431768211455/18446744073709551615", "exact 18446744073709551617");
+        reads("18446744073709551615/340282366920938463463374607431768211455", "exact 1/18446744073709551617");
+        reads("#x" + Check.repeat("f", 198) + "/" + Check.repeat("F", 197) + "e", "exact "
+            + TWO.pow(4 * 198).subtract(BigInteger.ONE) + "/" + TWO.pow(4 * 198).subtract(TWO));
         reads("#e0.5", "exact 1/2");
         reads("#e5.0", "exact 5");
         reads("#e1000e-3", "exact 1");
         reads(Check.repeat("9", 199) + "/" + Check.repeat("9", 200), "exact " + Check.repeat("1", 199) + "/"
             + Check.repeat("1", 200));
         reads(Check.repeat("9", 99) + "/" + Check.repeat("9", 198), "exact 1/1" + Check.repeat("0", 98) + "1");
+    }
+
+    private static void everySmallRatio() {
+        PROMISE.says("a fraction in lowest terms: every one of two small numbers");
+        for (int n = 0; n <= 48; n++) {
+            for (int d = 1; d <= 48; d++) {
+                int common = BigInteger.valueOf(n).gcd(BigInteger.valueOf(d)).intValue();
+                reads(n + "/" + d, "exact " + n / common + (d == common ? "" : "/" + d / common));
+            }
+        }
+    }
+
+    /** Great common factors, even and odd; the numbers that are left have words of all ones and of 0. */
+    private static void greatCommonFactors() {
+        PROMISE.says("a fraction in lowest terms: great ones");
+        BigInteger ones = TWO.pow(128).subtract(BigInteger.ONE);
+        BigInteger lone = TWO.pow(128).add(BigInteger.ONE);
+        BigInteger common = BigInteger.ONE;
+        for (int i = 0; i < 70; i++) {
+            common = common.multiply(BigInteger.valueOf(i % 4 == 0 ? 2 : 2 * i + 1));
+            reads("#x" + ones.multiply(common).toString(16) + "/" + lone.multiply(common).toString(16),
+                "exact " + ones + "/" + lone);
+            reads("#x" + lone.multiply(common).toString(16) + "/" + common.toString(16), "exact " + lone);
+        }
+    }
+
+    private static void powersOverTens() {
+        PROMISE.says("a fraction in lowest terms: powers of two and of five over powers of ten");
+        for (int power = 0; power < 560; power += power < 30 ? 1 : 53) {
+            for (int tens = 1; tens <= power; tens += tens < 30 ? 1 : 41) {
+                reads("#e" + FIVE.pow(power) + "e-" + tens, "exact " + FIVE.pow(power - tens) + "/" + TWO.pow(tens));
+                reads("#e" + TWO.pow(power) + "e-" + tens, "exact " + TWO.pow(power - tens) + "/" + FIVE.pow(tens));
+            }
+        }
     }
 
     /** The last numbers below 2^4096 and the first from it on, as far as so many digits tell them apart. */
@@ -77,6 +121,17 @@ public final class Promise04ValueTest {
         reads("#e." + Check.repeat("0", 390) + "1e9999", "none");
         reads("#e." + Check.repeat("0", 390) + "1e1624", "exact 1" + Check.repeat("0", 1233));
         reads("#e." + Check.repeat("0", 390) + "1e1625", "none");
+    }
+
+    private static void farTooGreat() {
+        PROMISE.says("more than 4096 bits are none: of every size");
+        String digits = Check.repeat("1234567890", 39);
+        for (int tens = 1234; tens <= 9999; tens += tens < 2000 ? 1 : 17) {
+            reads("#e1e" + tens, "none");
+            reads("#e" + digits + "e" + tens, "none");
+            reads("#e-1e-" + tens, "none");
+            reads("#e" + digits + "1e-" + tens, "none");
+        }
     }
 
     private static void greatestDenominators() {
@@ -255,8 +310,11 @@ public final class Promise04ValueTest {
 
     private static void negativeZero() {
         PROMISE.says("A zero with the sign - is -0.0 as a double");
-        for (String text : new String[] {"-0.", "-.0", "-0.0", "-0e0", "-0e9999", "-0e-9999", "#i-0", "#i-0/5", "#i#x-0",
-            "-1e-9999", "-2e-324", "#d-0.", "#i-0.0"}) {
+        String[] negative = {
+            "-0.", "-.0", "-0.0", "-0e0", "-0e9999", "-0e-9999", "#i-0", "#i-0/5", "#i#x-0", "-1e-9999", "-2e-324",
+            "#d-0.", "#i-0.0",
+        };
+        for (String text : negative) {
             reads(text, -0.0);
         }
         for (String text : new String[] {"0.", "+.0", "+0e9999", "#i0", "#i+0/5", "1e-9999"}) {

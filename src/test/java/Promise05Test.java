@@ -121,7 +121,7 @@ public final class Promise05Test {
             DoubleTexts x = Look.ready(sort);
             String call = "make(" + negative + ", " + units + ", " + place + ") after " + sort;
             PROMISE.same(call, x.make(negative, units, place), false);
-            PROMISE.same(call, Look.all(x), Look.all(Look.ready(sort)));
+            PROMISE.asReady(call, x, sort);
         }
     }
 
@@ -157,7 +157,7 @@ public final class Promise05Test {
         for (String sort : Look.SORTS) {
             DoubleTexts x = Look.ready(sort);
             x.make(true, 3, -1);
-            PROMISE.same("after " + sort, Look.all(x), Look.all(Look.ready("-1.5")));
+            PROMISE.asReady("after " + sort, x, "-1.5");
         }
     }
 }

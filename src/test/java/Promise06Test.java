@@ -94,7 +94,7 @@ public final class Promise06Test {
                     DoubleTexts x = Look.ready(sort);
                     String call = "divide(" + n + ", " + d + ") after " + sort;
                     PROMISE.same(call, x.divide(n, d), false);
-                    PROMISE.same(call, Look.all(x), Look.all(Look.ready(sort)));
+                    PROMISE.asReady(call, x, sort);
                 }
             }
         }
@@ -105,7 +105,7 @@ public final class Promise06Test {
         for (String sort : Look.SORTS) {
             DoubleTexts x = Look.ready(sort);
             x.divide(-3, 2);
-            PROMISE.same("after " + sort, Look.all(x), Look.all(Look.ready("-1.5")));
+            PROMISE.asReady("after " + sort, x, "-1.5");
         }
     }
 }

@@ -5,9 +5,9 @@ import java.math.BigInteger;
 public final class Promise07Test {
     private static final Promise PROMISE = new Promise(7);
     private static final double[] FINITE = {
-        1, 1.5, 0.1, 3, 1e22, 1e23, 0x1p52, 0x1p53, 0x1p53 - 1, 0x1p-52, 0x1p-53, 0x1p-53 + 0x1p-105, 0x1p32, 0x1p-32,
-        Double.MIN_VALUE, 2 * Double.MIN_VALUE, 3 * Double.MIN_VALUE, Double.MIN_NORMAL,
-        Double.MIN_NORMAL - Double.MIN_VALUE, 0x1p1023, Double.MAX_VALUE,
+        1, 1.5, 0.1, 3, 1e22, 1e23, 0x1p52 - 0.5, 0x1p52 - 1, 0x1p52, 0x1p52 + 1, 0x1p53, 0x1p53 - 1, 0x1p53 + 2,
+        0x1p-52, 0x1p-53, 0x1p-53 + 0x1p-105, 0x1p32, 0x1p-32, Double.MIN_VALUE, 2 * Double.MIN_VALUE,
+        3 * Double.MIN_VALUE, Double.MIN_NORMAL, Double.MIN_NORMAL - Double.MIN_VALUE, 0x1p1023, Double.MAX_VALUE,
     };
 
     public static void main(String[] args) {
@@ -17,15 +17,6 @@ public final class Promise07Test {
         noneSuch();
         allElseStays();
         PROMISE.end();
-    }
-
-    private static DoubleTexts made(double value) {
-        long bits = Double.doubleToRawLongBits(Math.abs(value));
-        DoubleTexts x = new DoubleTexts();
-        long units = bits < 1L << 52 ? bits : bits & (1L << 52) - 1 | 1L << 52;
-        x.make(value < 0, units, (int) Math.max(bits >>> 52, 1) - 1075);
-        PROMISE.same("made " + value, Look.number(x), Look.number(value));
-        return x;
     }
 
     private static String ratio(double value) {
@@ -41,7 +32,7 @@ public final class Promise07Test {
         PROMISE.says("The number becomes exact, if it is a finite double: true");
         for (double value : FINITE) {
             for (double signed : new double[] {value, -value}) {
-                DoubleTexts x = made(signed);
+                DoubleTexts x = Look.made(signed);
                 PROMISE.same("exact of " + signed, x.exact(), true);
                 PROMISE.same("kind of " + signed, x.kind(), 1);
                 PROMISE.same("negative of " + signed, x.negative(), signed < 0);
@@ -67,11 +58,11 @@ public final class Promise07Test {
 
     private static void bitsOfTheEnds() {
         PROMISE.says("becomes exact, if it is a finite double: the greatest and the least");
-        DoubleTexts x = made(Double.MAX_VALUE);
+        DoubleTexts x = Look.made(Double.MAX_VALUE);
         x.exact();
         PROMISE.same("greatest: numerator", x.bits(false), 1024);
         PROMISE.same("greatest: denominator", x.bits(true), 1);
-        x = made(Double.MIN_VALUE);
+        x = Look.made(Double.MIN_VALUE);
         x.exact();
         PROMISE.same("least: numerator", x.bits(false), 1);
         PROMISE.same("least: denominator", x.bits(true), 1075);
@@ -82,7 +73,7 @@ public final class Promise07Test {
         for (String sort : new String[] {"", "0", "-7", "22/7", "+inf.0", "-inf.0", "+nan.0", "1e999", "#e1e1234"}) {
             DoubleTexts x = Look.ready(sort);
             PROMISE.same("exact of " + sort, x.exact(), false);
-            PROMISE.same("then " + sort, Look.all(x), Look.all(Look.ready(sort)));
+            PROMISE.asReady("then " + sort, x, sort);
         }
     }
 
@@ -90,9 +81,9 @@ public final class Promise07Test {
         PROMISE.says("The number becomes exact: nothing else changes");
         DoubleTexts x = Look.ready("-1.5");
         x.exact();
-        PROMISE.same("-1.5", Look.all(x), Look.all(Look.ready("-3/2")));
+        PROMISE.asReady("-1.5", x, "-3/2");
         x = Look.ready("-0.0");
         x.exact();
-        PROMISE.same("-0.0", Look.all(x), Look.all(Look.ready("0")));
+        PROMISE.asReady("-0.0", x, "0");
     }
 }

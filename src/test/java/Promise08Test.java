@@ -86,7 +86,7 @@ public final class Promise08Test {
             DoubleTexts x = Look.ready(sort);
             if (x.kind() != 1) {
                 PROMISE.same("inexact of " + sort, x.inexact(), false);
-                PROMISE.same("then " + sort, Look.all(x), Look.all(Look.ready(sort)));
+                PROMISE.asReady("then " + sort, x, sort);
             }
         }
     }
@@ -95,9 +95,9 @@ public final class Promise08Test {
         PROMISE.says("The number becomes the nearest double: nothing else changes");
         DoubleTexts x = Look.ready("-3/2");
         x.inexact();
-        PROMISE.same("-3/2", Look.all(x), Look.all(Look.ready("-1.5")));
+        PROMISE.asReady("-3/2", x, "-1.5");
         x = Look.ready("#e-1e1000");
         x.inexact();
-        PROMISE.same("-10^1000", Look.all(x), Look.all(Look.ready("-inf.0")));
+        PROMISE.asReady("-10^1000", x, "-inf.0");
     }
 }

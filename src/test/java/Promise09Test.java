@@ -46,7 +46,7 @@ public final class Promise09Test {
         for (String sort : Look.SORTS) {
             DoubleTexts x = Look.ready(sort);
             x.kind();
-            PROMISE.same("after " + sort, Look.all(x), Look.all(Look.ready(sort)));
+            PROMISE.asReady("after " + sort, x, sort);
         }
     }
 }

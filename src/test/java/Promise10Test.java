@@ -57,7 +57,7 @@ public final class Promise10Test {
         for (String sort : Look.SORTS) {
             DoubleTexts x = Look.ready(sort);
             x.negative();
-            PROMISE.same("after " + sort, Look.all(x), Look.all(Look.ready(sort)));
+            PROMISE.asReady("after " + sort, x, sort);
         }
     }
 }

@@ -55,7 +55,7 @@ public final class Promise11Test {
         for (String sort : Look.SORTS) {
             DoubleTexts x = Look.ready(sort);
             x.units();
-            PROMISE.same("after " + sort, Look.all(x), Look.all(Look.ready(sort)));
+            PROMISE.asReady("after " + sort, x, sort);
         }
     }
 }

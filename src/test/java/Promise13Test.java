@@ -37,8 +37,9 @@ public final class Promise13Test {
         PROMISE.says("The bits of the numerator: around every power of two");
         for (int n = 1; n <= 1590; n++) {
             BigInteger power = BigInteger.TWO.pow(n);
+            BigInteger below = power.subtract(BigInteger.ONE);
             PROMISE.same("2^" + n, Look.read("#x" + power.toString(16)).bits(false), n + 1);
-            PROMISE.same("2^" + n + " - 1", Look.read("#x" + power.subtract(BigInteger.ONE).toString(16)).bits(false), n);
+            PROMISE.same("2^" + n + " - 1", Look.read("#x" + below.toString(16)).bits(false), n);
         }
     }
 
@@ -50,6 +51,10 @@ public final class Promise13Test {
         bits("4/2", 2, 1);
         bits("0/9", 0, 1);
         bits("22/7", 5, 3);
+        bits("12884901885/4294967295", 2, 1);
+        bits("4294967295/12884901885", 1, 2);
+        bits("340282366920938463463374607431768211455/18446744073709551615", 65, 1);
+        bits("18446744073709551615/340282366920938463463374607431768211455", 1, 65);
         bits("1/4294967295", 1, 32);
         bits("1/4294967296", 1, 33);
         bits("#x1/8" + Check.repeat("0", 395), 1, 4 * 396);
@@ -93,7 +98,7 @@ public final class Promise13Test {
             DoubleTexts x = Look.ready(sort);
             x.bits(false);
             x.bits(true);
-            PROMISE.same("after " + sort, Look.all(x), Look.all(Look.ready(sort)));
+            PROMISE.asReady("after " + sort, x, sort);
         }
     }
 }

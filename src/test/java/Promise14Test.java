@@ -11,6 +11,7 @@ public final class Promise14Test {
         fractions();
         everyBase();
         longest();
+        around400();
         words();
         sign();
         fewest();
@@ -27,6 +28,7 @@ public final class Promise14Test {
         leadingZeros();
         withExponent();
         length();
+        oneAfterAnother();
         refusesNone();
         refusesBases();
         allElseStays();
@@ -80,11 +82,12 @@ public final class Promise14Test {
             writes("" + great, base, great.toString(base));
             writes("-1/" + great, base, "-1/" + great.toString(base));
             writes("0", base, "0");
-            writes("-" + (base - 1), base, "-" + Integer.toString(base - 1, base));
+            String last = Integer.toString(base - 1, base);
+            writes("-" + (base - 1), base, "-" + last);
             for (int power = 1; power < 40; power++) {
                 BigInteger value = BigInteger.valueOf(base).pow(power);
                 writes("" + value, base, "1" + Check.repeat("0", power));
-                writes("" + value.subtract(BigInteger.ONE), base, Check.repeat(Integer.toString(base - 1, base), power));
+                writes("" + value.subtract(BigInteger.ONE), base, Check.repeat(last, power));
             }
         }
     }
@@ -96,6 +99,23 @@ public final class Promise14Test {
             + BigInteger.TEN.pow(1233).toString(2));
         writes("#e-1e1233", 2, "-" + BigInteger.TEN.pow(1233).toString(2));
         writes("#e-" + digits + "e-1233", "-" + digits + "/1" + Check.repeat("0", 1233));
+    }
+
+    /** Lengths from below 400 to above, numerator and denominator of every size. */
+    private static void around400() {
+        PROMISE.says("its length: around the 400 characters that a text may have");
+        for (int n = 360; n <= 440; n++) {
+            DoubleTexts x = new DoubleTexts();
+            x.make(true, 1, n);
+            x.exact();
+            PROMISE.same("-2^" + n, Check.written(x, 2), "-1" + Check.repeat("0", n));
+            x.make(true, 1, -n);
+            x.exact();
+            PROMISE.same("-2^-" + n, Check.written(x, 2), "-1/1" + Check.repeat("0", n));
+            x.make(false, (1L << 52) + 1, -n - 52);
+            x.exact();
+            PROMISE.same("length of (2^52 + 1) / 2^" + (n + 52), x.write(2), 53 + 1 + n + 53);
+        }
     }
 
     private static void words() {
@@ -216,12 +236,11 @@ public final class Promise14Test {
         if (value == 0 || Double.isInfinite(value)) {
             return;
         }
-        long bits = Double.doubleToRawLongBits(value);
-        DoubleTexts x = new DoubleTexts();
-        x.make(false, bits < TOP ? bits : bits & TOP - 1 | TOP, (int) Math.max(bits >>> 52, 1) - 1075);
-        String written = Check.written(x, 10);
+        String written = Check.written(Look.made(value), 10);
         BigDecimal decimal = new BigDecimal(written).stripTrailingZeros();
         PROMISE.same(written + " tells it", Double.parseDouble(written) == value, true);
+        PROMISE.same("the form of " + written, written, form(decimal.unscaledValue().toString(),
+            decimal.precision() - decimal.scale()));
         BigDecimal exact = new BigDecimal(value);
         BigDecimal distance = decimal.subtract(exact).abs();
         BigDecimal step = BigDecimal.ONE.scaleByPowerOfTen(-decimal.scale());
@@ -237,6 +256,18 @@ public final class Promise14Test {
             boolean tells = other.signum() > 0 && Double.parseDouble(other.toString()) == value;
             PROMISE.same(other + " is shorter than " + written, tells, false);
         }
+    }
+
+    private static String form(String digits, int p) {
+        int n = digits.length();
+        if (0 < p && p <= 21) {
+            return n > p ? digits.substring(0, p) + "." + digits.substring(p)
+                : digits + Check.repeat("0", p - n) + ".0";
+        }
+        if (-7 < p && p <= 0) {
+            return "0." + Check.repeat("0", -p) + digits;
+        }
+        return digits.charAt(0) + (n > 1 ? "." + digits.substring(1) : "") + "e" + (p - 1);
     }
 
     private static void zero() {
@@ -322,6 +353,22 @@ public final class Promise14Test {
         PROMISE.same("twice the same", x.write(10), 3);
     }
 
+    /** One object writes doubles of other lengths and exponents, one after another. */
+    private static void oneAfterAnother() {
+        PROMISE.says("The output becomes the number as it is written: whatever was written before");
+        String[] texts = {
+            "1e300", "0.0", "1.2345678901234567", "1e-300", "-0.0", "5.0", "+inf.0", "1e300", "+nan.0", "0.5", "0.0",
+            "1234.5", "22/7", "100000000000000000000.0", "0.0000001", "0.0",
+        };
+        DoubleTexts x = new DoubleTexts();
+        for (String text : texts) {
+            x.clear();
+            Check.type(x, text);
+            x.read();
+            PROMISE.same(text, Check.written(x, 10), text);
+        }
+    }
+
     private static void refusesNone() {
         PROMISE.says("-1, and nothing is done, if there is none");
         for (int base = -2; base <= 40; base++) {
@@ -333,7 +380,7 @@ public final class Promise14Test {
     }
 
     private static void refusesBases() {
-        PROMISE.says("exact ones in a base 2 to 16, doubles in base 10 .. -1, and nothing is done, .. for another base");
+        PROMISE.says("exact ones in a base 2 to 16, doubles in base 10 .. -1, and nothing is done, for another base");
         int[] never = {Integer.MIN_VALUE, -16, -10, -2, -1, 0, 1, 17, 18, 32, 36, 266, 65_546, Integer.MAX_VALUE};
         for (String sort : Look.SORTS) {
             for (int base : never) {
@@ -350,7 +397,7 @@ public final class Promise14Test {
     private static void refuses(String sort, int base) {
         DoubleTexts x = Look.ready(sort);
         PROMISE.same("write(" + base + ") of " + sort, x.write(base), -1);
-        PROMISE.same("after write(" + base + ") of " + sort, Look.all(x), Look.all(Look.ready(sort)));
+        PROMISE.asReady("after write(" + base + ") of " + sort, x, sort);
     }
 
     private static void allElseStays() {

@@ -96,7 +96,7 @@ public final class Promise15Test {
             x.out(0);
             x.out(-1);
             x.out(Integer.MAX_VALUE);
-            PROMISE.same("after " + sort, Look.all(x), Look.all(Look.ready(sort)));
+            PROMISE.asReady("after " + sort, x, sort);
         }
     }
 }

@@ -105,9 +105,7 @@ public final class Promise16Test {
             long bit = i < bits.length ? bits[i] : i * 0x9E3779B97F4A7C15L >>> 1;
             double value = Double.longBitsToDouble(bit);
             if (!Double.isNaN(value) && !Double.isInfinite(value)) {
-                DoubleTexts x = new DoubleTexts();
-                x.make(i % 2 == 1, bit >>> 52 == 0 ? bit : bit & (1L << 52) - 1 | 1L << 52,
-                    (int) Math.max(bit >>> 52, 1) - 1075);
+                DoubleTexts x = Look.made(i % 2 == 1 ? -value : value);
                 String number = Look.number(x);
                 x.write(10);
                 x.back();
