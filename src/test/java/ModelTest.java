@@ -233,9 +233,11 @@ public final class ModelTest {
     /** Fractions that are not in lowest terms. */
     private String commonFactor() {
         BigInteger common = someBits(300);
-        return random.nextBoolean()
-            ? oneOf("#x", "#e#x", "#x#i") + common.multiply(someBits(300)).toString(16) + "/" + common.multiply(someBits(300)).toString(16)
-            : oneOf("", "-") + common.multiply(someBits(300)) + "/" + common.multiply(someBits(300));
+        boolean hex = random.nextBoolean();
+        String prefix = hex ? oneOf("#x", "#e#x", "#x#i") : oneOf("", "-");
+        int base = hex ? 16 : 10;
+        String upper = common.multiply(someBits(300)).toString(base);
+        return prefix + upper + "/" + common.multiply(someBits(300)).toString(base);
     }
 
     /** From 1 up; some of the bits in long rows of ones and zeros. */
